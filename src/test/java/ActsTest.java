@@ -10,6 +10,7 @@ public final class ActsTest {
         bugle();
         undo();
         undoOfMany();
+        sevenRanks();
         Check.end();
     }
 
@@ -92,6 +93,15 @@ public final class ActsTest {
                 x.minute();
                 Check.due("drawn by seed " + seed, x.rank(1, 1), wanted[seed]);
             }
+        }
+        // 2 becomes 0 often, but that is not 1; 1 becomes 0 at first
+        int[] wantedToo = {1, 2, 0, 1};
+        for (int seed = 0; seed < wantedToo.length; seed++) {
+            HearsayMarch x = Check.withArmy("HRpRpS1206S1123S1102");
+            x.seed(seed);
+            x.say(1);
+            x.minute();
+            Check.due("drawn by seed " + seed, x.rank(1, 1), wantedToo[seed]);
         }
         HearsayMarch x = Check.withArmy("HRpRfS1124");
         x.seed(2);
@@ -207,5 +217,29 @@ public final class ActsTest {
         Check.due("undo() of what is forgotten", x.undo(), HearsayMarch.LATE);
         Check.due("the minute", x.about(2), 2);
         Check.due("y", x.rank(0, 5), 2);
+    }
+
+    private static void sevenRanks() {
+        HearsayMarch x = Check.withArmy("HRsRsRsRsRsRsRs");
+        Check.due("all sleep", x.about(3), 127);
+        Check.due("bugle()", x.bugle(), 0);
+        for (int i = 0; i < 7; i++) {
+            x.say(1);
+            x.minute();
+        }
+        Check.due("one wakes another", x.about(3), 64 + 32 + 16);
+        HearsayMarch y = Check.withArmy("HRpRpRpRpRpRpRp");
+        for (int i = 0; i < 7; i++) {
+            y.say(3);
+            y.minute();
+        }
+        Check.due("all but the front heard", y.about(4), 126);
+        Check.dueRank(y, 6, 0, 3, 3, 3, 1002, 0, 3);
+        y.say(3);
+        Check.due("all heard", y.about(4), 127);
+        Check.due("bugle()", y.bugle(), 7);
+        y.minute();
+        Check.dueRank(y, 6, 0, 3, 0, 3, 1003, 0, 3);
+        Check.due("rank(7, 1)", y.rank(7, 1), HearsayMarch.UNKNOWN);
     }
 }

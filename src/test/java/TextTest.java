@@ -118,6 +118,8 @@ public final class TextTest {
         dueFault("HRpRpS1011S1021S1031S104", 24);
         dueFault("HRpRpS1011S1021S1031S1047", HearsayMarch.NONE);
         dueFault("HRpRpS1011S1021S1031S1041S10", 27);
+        dueFault("HRpRpS1121S1131S1141S110", 24);
+        dueFault("HRpRpS1401S1411S1421S14", 23);
         String eight = "HRpRpS1011S1021S1031S1041S1101S1121S1131S1141";
         dueFault(eight, HearsayMarch.NONE);
         dueFault(eight + "S1201", HearsayMarch.NONE);
@@ -141,8 +143,9 @@ public final class TextTest {
         Check.dueRank(x, 0, 0, -9, -9, 0, 1000, 0, -9);
         Check.dueRank(x, 1, 2, -9, -9, 0, 1000, 0, -9);
         Check.dueRank(x, 2, 3, -9, -9, 0, 1000, 0, -9);
-        x.say(3);
+        x.say(1);
         x.minute();
+        x.say(3);
         x.minute();
         x.minute();
         x.keep(0);
@@ -150,9 +153,10 @@ public final class TextTest {
         x.write(1, 0);
         Check.due("army() of a fault", x.army(), HearsayMarch.LATE);
         Check.due("nothing changed: minute", x.about(2), 3);
-        Check.due("nothing changed: acts", x.about(5), 4);
+        Check.due("nothing changed: acts", x.about(5), 5);
         Check.due("nothing changed: kept", x.again(0), 3);
-        Check.due("nothing changed: x", x.rank(0, 4), 1003);
+        Check.due("nothing changed: x", x.rank(0, 4), 1002);
+        Check.due("nothing changed: y", x.rank(0, 5), 1);
         x.say(1);
         Check.rewrite(x, "HRdRsRpS1011");
         Check.due("a text is no army yet", x.rank(0, 0), 0);

@@ -124,6 +124,8 @@ public final class TracesTest {
             String call = "drill(0, " + row[0] + ", " + row[1] + ", " + row[2] + ")";
             Check.due(call, x.drill(0, row[0], row[1], row[2]), HearsayMarch.BAD);
         }
+        Check.due("HALT alone", x.drill(0, 1, 0, 0), 1000000);
+        Check.due("HALT alone, six times", x.drill(0, 6, 0, 0), 1000000);
         Check.due("the edges", x.drill(0, 6, 100000, 9), 1000001);
     }
 
